@@ -84,6 +84,9 @@ public final class BenchTest {
         OwnsLift v = alone(4, 40, "like 1 t=0", 31, 20);
         c.due("13: DEAREST, not cut", v.bench(0), 1);
         owners("13: DEAREST, 2/31 is more than 1/20", v, 0, -5);
+        OwnsLift q = alone(4, 9, "like 2 t=0;like 4 t=1", 4, 6);
+        c.due("13: DEAREST", q.bench(0), 1);
+        owners("13: DEAREST, 3/4 is less than 5/6", q, -5, 0);
         OwnsLift w = alone(4, 40, "like 1 t=0", 50, 20);
         c.due("13: DEAREST, not cut", w.bench(0), 1);
         owners("13: DEAREST, 2/50 is less than 1/20", w, -5, 0);
@@ -168,6 +171,11 @@ public final class BenchTest {
         y.give(3, -1);
         c.due("13: TOLD, passes what weighs nothing or isn't theirs", y.bench(0), 2);
         owners("13: TOLD, then the least LIKE", y, 0, -5, -5, -5);
+        OwnsLift u = alone(6, 10, LIKES, 10, 5, 15, 0);
+        u.row(0, 3);
+        u.row(0, 2);
+        c.due("13: TOLD, passes what weighs nothing", u.bench(0), 2);
+        owners("13: TOLD, the next of the ROW, then the least LIKE", u, 0, -5, -5, 0);
         OwnsLift z = alone(6, 20, LIKES, 10, 5, 15, 8);
         c.due("13: TOLD without a ROW", z.bench(0), 2);
         owners("13: TOLD as LENDING", z, 0, -5, -5, 0);

@@ -67,6 +67,22 @@ final class Check {
         return s.toString();
     }
 
+    /** HOLDERS of those STRENGTHS, and THINGS of those WEIGHTS, nobody's. */
+    static OwnsLift holders(int[] strengths, int... weights) {
+        OwnsLift x = new OwnsLift();
+        for (int strength : strengths) {
+            x.person(0, 0, strength, 0);
+        }
+        for (int weight : weights) {
+            x.thing(weight);
+        }
+        return x;
+    }
+
+    static int[] of(int... n) {
+        return n;
+    }
+
     static void feed(OwnsLift x, String text) {
         for (int i = 0; i < text.length(); i++) {
             x.feed(text.charAt(i));

@@ -12,29 +12,14 @@ public final class ExchangeTest {
         c.end("ExchangeTest");
     }
 
-    private static OwnsLift with(int[] strengths, int... weights) {
-        OwnsLift x = new OwnsLift();
-        for (int strength : strengths) {
-            x.person(0, 0, strength, 0);
-        }
-        for (int weight : weights) {
-            x.thing(weight);
-        }
-        return x;
-    }
-
     private static void owners(OwnsLift x, int... owners) {
         for (int t = 0; t < owners.length; t++) {
             x.give(t, owners[t]);
         }
     }
 
-    private static int[] of(int... n) {
-        return n;
-    }
-
     private static void swap() {
-        OwnsLift x = with(of(50, 50, 50), 5, 5, 5, 5, 5);
+        OwnsLift x = Check.holders(Check.of(50, 50, 50), 5, 5, 5, 5, 5);
         owners(x, 0, 0, 1, 1, 2);
         Check.land(x, "like 3 p=0&t>1;like 2 p=1&t=1;like 2 p=2&t=0;like 1 p=1&t=3");
         // 0 wants 2, 3, 4 for 0, 1; 1 wants 1 for 2 (not for 3: 3 of 2); 2 wants 0 for 4.
@@ -53,7 +38,7 @@ public final class ExchangeTest {
     }
 
     private static void swapLoads() {
-        OwnsLift x = with(of(12, 10), 5, 7, 5);
+        OwnsLift x = Check.holders(Check.of(12, 10), 5, 7, 5);
         owners(x, 0, 1, 0);
         Check.land(x, "like 2 p=0&t=1;like 2 p=1&t<1");
         c.asks(x, "21: neither OVER", () -> x.swap(0), 1);
@@ -65,7 +50,7 @@ public final class ExchangeTest {
         c.asks(x, "21: 1 is OVER, but not behind it", () -> x.swap(0), 1);
         x.strength(1, 4);
         c.asks(x, "21: 1 were OVER", () -> x.swap(0), 0);
-        OwnsLift y = with(of(9, 9), 5, 5);
+        OwnsLift y = Check.holders(Check.of(9, 9), 5, 5);
         owners(y, 0, 1);
         Check.land(y, "like 2 p=0&t=1");
         c.due("21: as much LIKE is not more", y.swap(0), 0);
@@ -73,19 +58,25 @@ public final class ExchangeTest {
     }
 
     private static void rest() {
-        OwnsLift x = with(of(50, 50, 50), 5, 5, 5);
+        OwnsLift x = Check.holders(Check.of(50, 50, 50), 5, 5, 5);
         owners(x, 0, 1, 2);
         c.asks(x, "22: none", () -> x.rest(), 0);
         Check.land(x, "like 3 p=0&t=2;like 2 p=0&t=1;like 3 p=1&t=0;like 2 p=2&t=1;like 9 p=1&t=2");
         // 0 and 1 swap 0 and 1; then 0 (3) wants 2 (4), 2 (1) wants 1 (3); then 1 has 0 (4), wants 2 (10), 0 wants not.
         c.asks(x, "22: one behind the other", () -> x.rest(), 2);
+        for (int lesser = 2; lesser <= 3; lesser++) {
+            OwnsLift z = Check.holders(Check.of(50, 50), 5, 5, 5, 5, 5);
+            owners(z, 0, 0, lesser == 3 ? 0 : 1, 1, 1);
+            Check.land(z, "like 1 p=0&t>" + (lesser - 1) + ";like 1 p=1&t<" + lesser);
+            c.asks(z, "22: as many as the one who has fewer", () -> z.rest(), 2);
+        }
         Check.land(x, "like 5 p=0&t=2;like 5 p=2&t=0");
         c.asks(x, "22: one", () -> x.rest(), 1);
         c.due("22: OWNER", x.at(0, 1), 0);
     }
 
     private static void fair() {
-        OwnsLift x = with(of(20, 20, 0), 10, 10, 5, 40);
+        OwnsLift x = Check.holders(Check.of(20, 20, 0), 10, 10, 5, 40);
         owners(x, 0, 0, 1, 2);
         Check.land(x, "like 3 p=0&t=0;like 1 p=1&t=1;like 2 p=1&t=2");
         // 0: 4 1 1; 1: 1 2 3. 0 with 0: 4 of 2, 1: 5 of 1; 0 with 0, 1: 5 of 1, 1: 3 of 3;
@@ -117,7 +108,7 @@ public final class ExchangeTest {
     }
 
     private static void had() {
-        OwnsLift x = with(of(9), 5, 10, 15, 0, 5);
+        OwnsLift x = Check.holders(Check.of(9), 5, 10, 15, 0, 5);
         x.give(1, 0);
         // 15: {2} {0,1} {1,4}, each with 3 or without
         c.asks(x, "24: had(15, 0)", () -> x.had(15, 0), 6);
@@ -132,7 +123,7 @@ public final class ExchangeTest {
         c.refuses(x, "24: had(-1, 0)", () -> x.had(-1, 0), OwnsLift.BAD);
         c.refuses(x, "24: had(1, 2)", () -> x.had(1, 2), OwnsLift.NONE);
         c.refuses(x, "24: NONE ahead of BAD", () -> x.had(401, -1), OwnsLift.NONE);
-        OwnsLift y = with(of(), 50, 50, 50, 50, 50, 50, 50);
+        OwnsLift y = Check.holders(Check.of(), 50, 50, 50, 50, 50, 50, 50);
         c.due("24: had(350, 1)", y.had(350, 1), 127);
         c.due("24: had(150, 0)", y.had(150, 0), 35);
     }
@@ -143,7 +134,7 @@ public final class ExchangeTest {
     }
 
     private static void odds() {
-        OwnsLift x = with(of(11, 20), 5, 6, 11);
+        OwnsLift x = Check.holders(Check.of(11, 20), 5, 6, 11);
         Check.land(x, "ill 4 p=0;ill 5 p=1");
         fraction("25: nothing is anybody's", x, 1, 1);
         x.give(0, 0);

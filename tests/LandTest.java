@@ -13,6 +13,7 @@ public final class LandTest {
         full();
         meanings();
         years();
+        shorter();
         c.end("LandTest");
     }
 
@@ -160,6 +161,12 @@ public final class LandTest {
         String short9 = "ill 1 p=1;".repeat(9);
         fault(short9, 90);
         fault(short9 + "ill 1 p=1x", 99);
+        OwnsLift x = new OwnsLift();
+        x.person(0, 0, 0, 0);
+        Check.land(x, "ill 1 p=1;".repeat(8) + "ill 3 p=0;ill 2 p=0");
+        c.due("5: the ninth and the tenth CLAUSE", x.of(0, 7), 5);
+        Check.land(x, "ill 4 p=0;" + "ill 1 p=1;".repeat(8) + "ill 2 p=0");
+        c.due("5: the first and the tenth CLAUSE", x.of(0, 7), 6);
     }
 
     /** The LAND that held holds, and THE TAPE is empty, behind a FAULT. */
@@ -248,5 +255,29 @@ public final class LandTest {
         c.due("14: wear of w 5", x.at(0, 0), 46);
         c.due("14: year", x.year(), 2);
         c.due("14: wear of w 4, y 2", x.at(0, 0), 41);
+        OwnsLift z = new OwnsLift();
+        z.thing(50);
+        Check.land(z, "wear 7 y=0;wear 1 y=1");
+        for (int n = 0; n < 11; n++) {
+            z.year();
+        }
+        c.due("14: wear in the years 1, 10, 11", z.at(0, 0), 41);
+    }
+
+    /** What stood on THE TAPE before is nothing to the LAND that is read. */
+    private static void shorter() {
+        OwnsLift x = new OwnsLift();
+        c.due("3: land()", Check.land(x, "like 12 p=12&t=1;lift 1 p=1"), 0);
+        for (String text : new String[] {"", "l", "lik", "like", "like ", "like 1", "like 12", "like 12 ", "like 12 p",
+            "like 12 p=", "like 12 p=12&", "like 12 p=12&t", "like 12 p=12&t=1;li"}) {
+            c.due("3: land() of '" + text + "'", Check.land(x, text), -10 - text.length());
+        }
+        c.due("3: land()", Check.land(x, "like 12 p=0"), 1);
+        x.person(0, 0, 0, 0);
+        x.thing(0);
+        c.due("11: not the 12 of before", x.like(0, 0), 13);
+        Check.land(x, "like 12 p=12");
+        c.due("3: land()", Check.land(x, "like 1 p<1"), 3);
+        c.due("11: not the 12 of before", x.like(0, 0), 2);
     }
 }

@@ -7,6 +7,7 @@ public final class ModelTest {
     private static final Check c = new Check();
     private static final int RUNS = 150;
     private static final int SHORT_RUNS = 3000;
+    private static final int WILD_RUNS = 300;
     private static final int TEXTS = 2000;
 
     private final Random random;
@@ -25,6 +26,9 @@ public final class ModelTest {
         }
         for (int seed = 1; seed <= SHORT_RUNS; seed++) {
             new ModelTest(-seed).shortRun();
+        }
+        for (int seed = 1; seed <= WILD_RUNS; seed++) {
+            new ModelTest(100000 + seed).wildRun();
         }
         for (int seed = 1; seed <= TEXTS; seed++) {
             new ModelTest(seed).texts();
@@ -247,6 +251,27 @@ public final class ModelTest {
         for (int t = 0; t < 7; t++) {
             ask("at", t, 1);
         }
+    }
+
+    private static final List<String> NAMES = List.of("feed", "land", "person", "of", "strength", "row", "thing", "at",
+        "give", "like", "when", "bench", "year", "gives", "parts", "swap", "rest", "fair", "had", "odds", "see", "looked",
+        "act", "trace", "as", "image", "undo", "count");
+    private static final List<String> DEAR = List.of("best", "most", "train", "moved");
+    private static final int[] EDGES = {Integer.MIN_VALUE, Integer.MIN_VALUE + 1, -1001, -6, -5, -2, -1, -1, 0, 0, 0, 0, 1, 1,
+        1, 2, 2, 3, 3, 4, 5, 6, 7, 9, 10, 12, 20, 50, 51, 99, 100, 127, 128, 400, 401, Integer.MAX_VALUE};
+
+    private int edge() {
+        return EDGES[below(EDGES.length)];
+    }
+
+    /** Any call with any numbers, in any order. */
+    private void wildRun() {
+        land(text());
+        for (int n = 0; n < 300; n++) {
+            String name = below(60) == 0 ? DEAR.get(below(4)) : NAMES.get(below(NAMES.size()));
+            ask(name, edge(), edge(), name.equals("act") ? random.nextInt() : edge(), edge());
+        }
+        everything();
     }
 
     private void step() {

@@ -1084,7 +1084,7 @@ public final class OwnsLift {
             for (int t = things - 1; t >= 0; t--) {
                 int top = worth[t][people];
                 for (int p = 0; p < people; p++) {
-                    top = Math.max(top, worth[t][p]);
+                    top = weight[t] <= room[p] ? Math.max(top, worth[t][p]) : top;
                 }
                 hope[t] = hope[t + 1] + top;
             }
@@ -1115,23 +1115,19 @@ public final class OwnsLift {
 
     /** What is asked of sets of THINGS, as bits. */
     private static final class Sets {
-        /** GIVES: the set. */
+        /** GIVES: the set. To give all always serves, and of sets with as much LIKE the lesser one comes first. */
         static int leastGiven(Standing standing, int p) {
             int own = standing.bits(p);
             int least = own;
+            int leastLike = standing.likeOfSet(p, own);
             for (int set = 0; set < own; set++) {
                 if ((set & ~own) == 0 && standing.weightOfSet(own & ~set) <= standing.lifts[p]
-                        && before(standing, p, set, least)) {
+                        && standing.likeOfSet(p, set) < leastLike) {
                     least = set;
+                    leastLike = standing.likeOfSet(p, set);
                 }
             }
             return least;
-        }
-
-        private static boolean before(Standing standing, int p, int set, int other) {
-            int like = standing.likeOfSet(p, set);
-            int otherLike = standing.likeOfSet(p, other);
-            return like < otherLike || like == otherLike && set < other;
         }
 
         static int fairNumber(Standing standing, int one, int other) {
