@@ -21,8 +21,8 @@ public final class ActTest {
     }
 
     /** One of that KIND with number 3, v 4. */
-    private static OwnsLift third(int kind) {
-        OwnsLift x = new OwnsLift();
+    private static Lift third(int kind) {
+        Lift x = new Lift();
         x.person(0, 0, 0, 0);
         x.person(0, 0, 0, 0);
         x.person(0, 0, 0, 0);
@@ -31,7 +31,7 @@ public final class ActTest {
     }
 
     private static void act(int kind, int act, int x, int want, int... bodies) {
-        OwnsLift o = third(kind);
+        Lift o = third(kind);
         o.act(3, 2, 1);
         c.due("28: act " + act + " of KIND " + kind, o.act(3, act, x), want);
         for (int i = 0; i < bodies.length; i++) {
@@ -90,7 +90,7 @@ public final class ActTest {
     }
 
     private static void noSuch() {
-        OwnsLift x = third(0);
+        Lift x = third(0);
         int[][] wrong = {{4, 0}, {-1, 0}, {0, 3}, {0, -1}};
         for (int[] w : wrong) {
             x.act(3, 2, 10);
@@ -100,35 +100,35 @@ public final class ActTest {
             c.due("28: no bodies then", x.count(5), 0);
         }
         x.act(3, 1, 10);
-        c.refuses(x, "29: trace(-1)", () -> x.trace(-1), OwnsLift.NONE);
-        c.refuses(x, "29: trace(2)", () -> x.trace(2), OwnsLift.NONE);
-        c.refuses(x, "29: trace(20)", () -> x.trace(20), OwnsLift.NONE);
+        c.refuses(x, "29: trace(-1)", o -> o.trace(-1), OwnsLift.NONE);
+        c.refuses(x, "29: trace(2)", o -> o.trace(2), OwnsLift.NONE);
+        c.refuses(x, "29: trace(20)", o -> o.trace(20), OwnsLift.NONE);
     }
 
     private static void as() {
         int[][] under = {{0}, {0, 1}, {0, 2}, {0, 3}, {0, 1, 4}, {0, 2, 5}, {0, 3, 6}};
         for (int kind = 0; kind < 7; kind++) {
-            OwnsLift x = third(kind);
+            Lift x = third(kind);
             for (int k = 0; k < 7; k++) {
                 int want = -6;
                 for (int above : under[kind]) {
                     want = above == k ? 4 : want;
                 }
                 int asked = k;
-                c.asks(x, "30: as(3, " + k + ") of KIND " + kind, () -> x.as(3, asked), want);
+                c.asks(x, "30: as(3, " + k + ") of KIND " + kind, o -> o.as(3, asked), want);
             }
         }
-        OwnsLift x = third(6);
-        c.refuses(x, "30: as(4, 0)", () -> x.as(4, 0), OwnsLift.NONE);
-        c.refuses(x, "30: as(-1, 0)", () -> x.as(-1, 0), OwnsLift.NONE);
-        c.refuses(x, "30: as(0, 7)", () -> x.as(0, 7), OwnsLift.NONE);
-        c.refuses(x, "30: as(0, -1)", () -> x.as(0, -1), OwnsLift.NONE);
+        Lift x = third(6);
+        c.refuses(x, "30: as(4, 0)", o -> o.as(4, 0), OwnsLift.NONE);
+        c.refuses(x, "30: as(-1, 0)", o -> o.as(-1, 0), OwnsLift.NONE);
+        c.refuses(x, "30: as(0, 7)", o -> o.as(0, 7), OwnsLift.NONE);
+        c.refuses(x, "30: as(0, -1)", o -> o.as(0, -1), OwnsLift.NONE);
     }
 
     private static void image() {
-        OwnsLift x = new OwnsLift();
-        c.refuses(x, "32: undo() without an IMAGE", () -> x.undo(), OwnsLift.STATE);
-        c.asks(x, "31: image() of nobody", () -> x.image(), 0);
+        Lift x = new Lift();
+        c.refuses(x, "32: undo() without an IMAGE", o -> o.undo(), OwnsLift.STATE);
+        c.due("31: image() of nobody", x.image(), 0);
         x.person(0, 0, 0, 0);
         x.act(0, 1, 0);
         c.due("32: undo()", x.undo(), 0);
@@ -140,14 +140,14 @@ public final class ActTest {
         c.due("32: undo() again", x.undo(), 0);
         x.person(0, 0, 0, 0);
         x.person(0, 0, 0, 0);
-        c.asks(x, "31: image() of two", () -> x.image(), 2);
+        c.due("31: image() of two", x.image(), 2);
         x.person(0, 0, 0, 0);
         c.due("32: undo()", x.undo(), 2);
         c.due("32: undo(), nothing since", x.undo(), 2);
     }
 
-    private static OwnsLift world() {
-        OwnsLift x = new OwnsLift();
+    private static Lift world() {
+        Lift x = new Lift();
         x.person(6, 5, 40, 33);
         x.person(2, 1, 20, 98);
         x.thing(20);
@@ -165,9 +165,9 @@ public final class ActTest {
     }
 
     private static void wholeImage() {
-        OwnsLift x = world();
+        Lift x = world();
         x.image();
-        String before = Check.look(x);
+        Lift before = x.again();
         x.person(1, 1, 1, 1);
         x.strength(0, 3);
         x.thing(9);
@@ -179,16 +179,16 @@ public final class ActTest {
         Check.feed(x, "=0");
         x.land();
         Check.land(x, "like 1 p=1");
-        c.due("32: something changed", Check.look(x).equals(before) ? 1 : 0, 0);
+        c.differ("32: what changed", x, before);
         c.due("32: undo()", x.undo(), 2);
-        c.due("32: all is as THE IMAGE", Check.look(x), before);
+        c.same("32: all is as THE IMAGE", x, before);
         x.row(0, -1);
         x.see(-1, true);
         x.see(1, true);
         x.see(1, true);
         x.land();
         x.undo();
-        c.due("32: all is as THE IMAGE again", Check.look(x), before);
+        c.same("32: all is as THE IMAGE again", x, before);
         Check.feed(x, "=0");
         c.due("32: THE TAPE's signs", x.land(), 1);
         c.due("32: and what they say", x.like(0, 0), 8);
@@ -197,7 +197,7 @@ public final class ActTest {
     }
 
     private static void imageOfRows() {
-        OwnsLift x = new OwnsLift();
+        Lift x = new Lift();
         x.person(6, 0, 0, 0);
         x.thing(1);
         x.thing(1);
@@ -212,7 +212,7 @@ public final class ActTest {
         x.bench(0);
         c.due("32: the ROW's THINGS", x.at(1, 1), -5);
         c.due("32: the ROW's THINGS", x.at(0, 1), 0);
-        OwnsLift y = new OwnsLift();
+        Lift y = new Lift();
         y.person(0, 0, 0, 0);
         y.see(0, true);
         y.image();
@@ -224,7 +224,7 @@ public final class ActTest {
     }
 
     private static void undoOfLand() {
-        OwnsLift x = new OwnsLift();
+        Lift x = new Lift();
         x.person(0, 0, 0, 0);
         x.thing(1);
         x.image();
@@ -239,13 +239,13 @@ public final class ActTest {
     }
 
     private static void count() {
-        OwnsLift x = world();
+        Lift x = world();
         int[] want = {2, 2, 1, 2, 8, 0};
         for (int what = 0; what < want.length; what++) {
             int w = what;
-            c.asks(x, "33: count(" + what + ")", () -> x.count(w), want[w]);
+            c.asks(x, "33: count(" + what + ")", o -> o.count(w), want[w]);
         }
-        c.refuses(x, "33: count(6)", () -> x.count(6), OwnsLift.NONE);
-        c.refuses(x, "33: count(-1)", () -> x.count(-1), OwnsLift.NONE);
+        c.refuses(x, "33: count(6)", o -> o.count(6), OwnsLift.NONE);
+        c.refuses(x, "33: count(-1)", o -> o.count(-1), OwnsLift.NONE);
     }
 }

@@ -1,6 +1,6 @@
-import java.util.function.LongSupplier;
+import java.util.function.ToLongFunction;
 
-/** What the tests share: an answer that is due, a call that is refused and changes nothing, a look at all there is. */
+/** What the tests share: an answer that is due, a call that is refused and changes nothing, objects made by few words. */
 final class Check {
     private int passed;
     private int failed;
@@ -23,15 +23,40 @@ final class Check {
         }
     }
 
-    void refuses(OwnsLift x, String call, LongSupplier asked, long want) {
-        String before = look(x);
-        due(call, asked.getAsLong(), want);
-        due("all there is behind " + call, look(x), before);
+    /** The call is asked at x, and all that can be seen of x is then as it was without that call. */
+    void refuses(Lift x, String call, ToLongFunction<Lift> asked, long want) {
+        Lift before = x.again();
+        due(call, asked.applyAsLong(x), want);
+        same("all there is behind " + call, x, before);
     }
 
     /** An answer that is no refusal, of a call that must change nothing. */
-    void asks(OwnsLift x, String call, LongSupplier asked, long want) {
+    void asks(Lift x, String call, ToLongFunction<Lift> asked, long want) {
         refuses(x, call, asked, want);
+    }
+
+    /** All that can be seen of x is as it is of the other one. */
+    void same(String what, Lift x, Lift other) {
+        for (Look look : Look.values()) {
+            due(what, look.at(x.again()), look.at(other.again()));
+        }
+    }
+
+    /** Something that can be seen of x is not as it is of the other one. */
+    void differ(String what, Lift x, Lift other) {
+        int other1 = 0;
+        for (Look look : Look.values()) {
+            other1 += look.at(x.again()).equals(look.at(other.again())) ? 0 : 1;
+        }
+        due(what + " shows", other1 > 0 ? 1 : 0, 1);
+    }
+
+    int passed() {
+        return passed;
+    }
+
+    int failed() {
+        return failed;
     }
 
     void end(String name) {
@@ -41,55 +66,41 @@ final class Check {
         }
     }
 
-    /** All that can be seen without changing anything (THE TAPE by its size alone). */
-    static String look(OwnsLift x) {
-        StringBuilder s = new StringBuilder();
-        for (int what = 0; what < 6; what++) {
-            s.append(x.count(what)).append(' ');
-        }
-        s.append("y").append(x.when()).append(" l").append(x.looked());
-        int things = x.count(1);
-        for (int p = 0; p < x.count(0); p++) {
-            s.append(" p");
-            for (int what = 0; what < 10; what++) {
-                s.append(' ').append(x.of(p, what));
-            }
-            for (int t = 0; t < things; t++) {
-                s.append(" k").append(x.like(p, t));
-            }
-        }
-        for (int t = 0; t < things; t++) {
-            s.append(" t").append(x.at(t, 0)).append(',').append(x.at(t, 1));
-        }
-        for (int i = 0; x.trace(i) != OwnsLift.NONE && i < 20; i++) {
-            s.append(" b").append(x.trace(i));
-        }
-        return s.toString();
-    }
-
     /** HOLDERS of those STRENGTHS, and THINGS of those WEIGHTS, nobody's. */
-    static OwnsLift holders(int[] strengths, int... weights) {
-        OwnsLift x = new OwnsLift();
+    static Lift holders(int[] strengths, int... weights) {
+        Lift x = new Lift();
         for (int strength : strengths) {
             x.person(0, 0, strength, 0);
         }
+        things(x, weights);
+        return x;
+    }
+
+    /** THINGS of those WEIGHTS, nobody's. */
+    static void things(Lift x, int... weights) {
         for (int weight : weights) {
             x.thing(weight);
         }
-        return x;
+    }
+
+    /** The THINGS from 0 on become theirs (-1: nobody's). */
+    static void owners(Lift x, int... owners) {
+        for (int t = 0; t < owners.length; t++) {
+            x.give(t, owners[t]);
+        }
     }
 
     static int[] of(int... n) {
         return n;
     }
 
-    static void feed(OwnsLift x, String text) {
+    static void feed(Lift x, String text) {
         for (int i = 0; i < text.length(); i++) {
             x.feed(text.charAt(i));
         }
     }
 
-    static int land(OwnsLift x, String text) {
+    static int land(Lift x, String text) {
         feed(x, text);
         return x.land();
     }

@@ -18,9 +18,9 @@ public final class LandTest {
     }
 
     private static void feed() {
-        OwnsLift x = new OwnsLift();
-        c.refuses(x, "2: feed(-1)", () -> x.feed(-1), OwnsLift.BAD);
-        c.refuses(x, "2: feed(128)", () -> x.feed(128), OwnsLift.BAD);
+        Lift x = new Lift();
+        c.refuses(x, "2: feed(-1)", o -> o.feed(-1), OwnsLift.BAD);
+        c.refuses(x, "2: feed(128)", o -> o.feed(128), OwnsLift.BAD);
         c.due("2: feed(0)", x.feed(0), 1);
         c.due("2: feed(127)", x.feed(127), 2);
         c.due("2: land() of these", x.land(), -10);
@@ -29,22 +29,22 @@ public final class LandTest {
             c.due("2: feed", x.feed(land.charAt(i)), i + 1);
         }
         c.due("2: the hundredth", x.feed('2'), 100);
-        c.refuses(x, "2: one more", () -> x.feed(';'), OwnsLift.FULL);
-        c.refuses(x, "2: BAD ahead of FULL", () -> x.feed(128), OwnsLift.BAD);
+        c.refuses(x, "2: one more", o -> o.feed(';'), OwnsLift.FULL);
+        c.refuses(x, "2: BAD ahead of FULL", o -> o.feed(128), OwnsLift.BAD);
         c.due("2: count(4)", x.count(4), 100);
         c.due("3: a LAND of 100", x.land(), 0);
         c.due("3: THE TAPE is empty", x.count(4), 0);
     }
 
     private static void fault(String text, int place) {
-        OwnsLift x = new OwnsLift();
+        Lift x = new Lift();
         c.due("3: land() of '" + text + "'", Check.land(x, text), -10 - place);
         c.due("3: THE TAPE behind '" + text + "'", x.count(4), 0);
         c.due("3: LANDS behind '" + text + "'", x.count(2), 0);
     }
 
     private static void good(String text) {
-        OwnsLift x = new OwnsLift();
+        Lift x = new Lift();
         c.due("3: land() of '" + text + "'", Check.land(x, text), 0);
         c.due("3: LANDS behind '" + text + "'", x.count(2), 1);
     }
@@ -161,7 +161,7 @@ public final class LandTest {
         String short9 = "ill 1 p=1;".repeat(9);
         fault(short9, 90);
         fault(short9 + "ill 1 p=1x", 99);
-        OwnsLift x = new OwnsLift();
+        Lift x = new Lift();
         x.person(0, 0, 0, 0);
         Check.land(x, "ill 1 p=1;".repeat(8) + "ill 3 p=0;ill 2 p=0");
         c.due("5: the ninth and the tenth CLAUSE", x.of(0, 7), 5);
@@ -171,12 +171,12 @@ public final class LandTest {
 
     /** The LAND that held holds, and THE TAPE is empty, behind a FAULT. */
     private static void holding() {
-        OwnsLift x = new OwnsLift();
+        Lift x = new Lift();
         x.person(0, 0, 0, 0);
         x.thing(0);
         c.due("3: the first", Check.land(x, "like 5 p=0"), 0);
         c.due("3: holds", x.like(0, 0), 6);
-        c.refuses(x, "3: FAULT", () -> Check.land(x, "like 7 p=0;"), -21);
+        c.refuses(x, "3: FAULT", o -> Check.land(o, "like 7 p=0;"), -21);
         c.due("3: the one that held holds", x.like(0, 0), 6);
         c.due("3: the second", Check.land(x, "lift 8 p=0"), 1);
         c.due("3: the newest holds alone", x.like(0, 0), 1);
@@ -184,17 +184,17 @@ public final class LandTest {
     }
 
     private static void full() {
-        OwnsLift x = new OwnsLift();
+        Lift x = new Lift();
         x.person(0, 0, 0, 0);
         x.thing(0);
         for (int n = 0; n < 5; n++) {
             c.due("3: LAND", Check.land(x, "like " + n + " p=0"), n);
         }
         Check.feed(x, "bad");
-        c.refuses(x, "3: a sixth", () -> x.land(), OwnsLift.FULL);
+        c.refuses(x, "3: a sixth", o -> o.land(), OwnsLift.FULL);
         c.due("3: THE TAPE stays", x.count(4), 3);
         c.due("3: the fifth holds", x.like(0, 0), 5);
-        OwnsLift y = new OwnsLift();
+        Lift y = new Lift();
         for (int n = 0; n < 4; n++) {
             Check.land(y, "like 1 p=0");
             Check.land(y, "bad");
@@ -204,7 +204,7 @@ public final class LandTest {
 
     /** Whether E holds for person 1 (FULL, age 47) and thing 2 (weight 35) in year 13. */
     private static void holds(String e, boolean want) {
-        OwnsLift x = new OwnsLift();
+        Lift x = new Lift();
         x.person(0, 0, 0, 0);
         x.person(1, 0, 0, 34);
         x.thing(0);
@@ -247,7 +247,7 @@ public final class LandTest {
     }
 
     private static void years() {
-        OwnsLift x = new OwnsLift();
+        Lift x = new Lift();
         x.person(0, 0, 0, 9);
         x.thing(50);
         Check.land(x, "wear 4 w=5&t=0;wear 2 w=4;wear 50 p<99|k<99|a<99;wear 3 p=99&k=99&a=99&y=2");
@@ -255,7 +255,7 @@ public final class LandTest {
         c.due("14: wear of w 5", x.at(0, 0), 46);
         c.due("14: year", x.year(), 2);
         c.due("14: wear of w 4, y 2", x.at(0, 0), 41);
-        OwnsLift z = new OwnsLift();
+        Lift z = new Lift();
         z.thing(50);
         Check.land(z, "wear 7 y=0;wear 1 y=1");
         for (int n = 0; n < 11; n++) {
@@ -266,7 +266,7 @@ public final class LandTest {
 
     /** What stood on THE TAPE before is nothing to the LAND that is read. */
     private static void shorter() {
-        OwnsLift x = new OwnsLift();
+        Lift x = new Lift();
         c.due("3: land()", Check.land(x, "like 12 p=12&t=1;lift 1 p=1"), 0);
         for (String text : new String[] {"", "l", "lik", "like", "like ", "like 1", "like 12", "like 12 ", "like 12 p",
             "like 12 p=", "like 12 p=12&", "like 12 p=12&t", "like 12 p=12&t=1;li"}) {

@@ -9,6 +9,9 @@ public final class ModelTest {
     private static final int SHORT_RUNS = 3000;
     private static final int WILD_RUNS = 300;
     private static final int TEXTS = 2000;
+    /** An object answers so many calls; everything() asks fewer than the last of these. */
+    private static final int CALLS = 512;
+    private static final int AT_LAST = 120;
 
     private final Random random;
     private final OwnsLift program = new OwnsLift();
@@ -36,7 +39,14 @@ public final class ModelTest {
         c.end("ModelTest");
     }
 
+    private boolean mayAsk() {
+        return calls.size() < CALLS - AT_LAST;
+    }
+
     private long ask(String name, int... n) {
+        if (calls.size() >= CALLS) {
+            return 0;
+        }
         int[] a = new int[4];
         System.arraycopy(n, 0, a, 0, n.length);
         calls.add(name + java.util.Arrays.toString(n));
@@ -181,12 +191,16 @@ public final class ModelTest {
 
     // ---- runs
 
+    private int counted(int what) {
+        return (int) model.call("count", what, 0, 0, 0);
+    }
+
     private int person() {
-        return below(40) == 0 ? below(7) - 1 : below(Math.max(1, program.count(0)));
+        return below(40) == 0 ? below(7) - 1 : below(Math.max(1, counted(0)));
     }
 
     private int thing() {
-        return below(40) == 0 ? below(10) - 1 : below(Math.max(1, program.count(1)));
+        return below(40) == 0 ? below(10) - 1 : below(Math.max(1, counted(1)));
     }
 
     private int what(int most) {
@@ -205,10 +219,10 @@ public final class ModelTest {
         for (int n = 1 + below(7); n > 0; n--) {
             ask("thing", below(3) == 0 ? below(10) : below(heavy));
         }
-        for (int t = 0; t < program.count(1); t++) {
+        for (int t = 0; t < counted(1); t++) {
             ask("give", t, person());
         }
-        for (int n = 0; n < 300; n++) {
+        for (int n = 0; n < 300 && mayAsk(); n++) {
             step();
         }
         everything();
@@ -267,7 +281,7 @@ public final class ModelTest {
     /** Any call with any numbers, in any order. */
     private void wildRun() {
         land(text());
-        for (int n = 0; n < 300; n++) {
+        for (int n = 0; n < 300 && mayAsk(); n++) {
             String name = below(60) == 0 ? DEAR.get(below(4)) : NAMES.get(below(NAMES.size()));
             ask(name, edge(), edge(), name.equals("act") ? random.nextInt() : edge(), edge());
         }
@@ -316,16 +330,16 @@ public final class ModelTest {
         ask("best", -1);
         ask("most");
         ask("moved");
-        for (int t = 0; t < program.count(1); t++) {
+        for (int t = 0; t < counted(1); t++) {
             ask("at", t, 0);
             ask("at", t, 1);
         }
-        for (int p = 0; p < program.count(0); p++) {
+        for (int p = 0; p < counted(0); p++) {
             ask("train", p);
             for (int what = 0; what < 10; what++) {
                 ask("of", p, what);
             }
-            for (int t = 0; t < program.count(1); t++) {
+            for (int t = 0; t < counted(1); t++) {
                 ask("like", p, t);
             }
         }

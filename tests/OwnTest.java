@@ -15,16 +15,16 @@ public final class OwnTest {
         c.end("OwnTest");
     }
 
-    private static void row(String what, OwnsLift x, int like, int... owners) {
-        c.asks(x, what + ", best(-1)", () -> x.best(-1), like);
+    private static void row(String what, Lift x, int like, int... owners) {
+        c.asks(x, what + ", best(-1)", o -> o.best(-1), like);
         for (int t = 0; t < owners.length; t++) {
             int u = t;
-            c.asks(x, what + ", best(" + t + ")", () -> x.best(u), owners[u]);
+            c.asks(x, what + ", best(" + t + ")", o -> o.best(u), owners[u]);
         }
     }
 
     private static void best() {
-        OwnsLift x = Check.holders(Check.of(10, 10), 10, 6, 5);
+        Lift x = Check.holders(Check.of(10, 10), 10, 6, 5);
         Check.land(x, "like 4 p=1&t=0;like 3 p=0&t=1;like 3 p=0&t=2;like 2 p=1&t=2");
         // 0 takes 1 (4) and 1 takes 0 (5): 9; 2 fits behind neither. 0 with 1, 1 with 2: 7.
         row("15", x, 9, 1, 0, -5);
@@ -32,41 +32,41 @@ public final class OwnTest {
         row("15 stronger", x, 13, 1, 0, 0);
         x.give(0, 0);
         row("15, whose they are now is all one", x, 13, 1, 0, 0);
-        c.refuses(x, "15: best(3)", () -> x.best(3), -1001);
-        c.refuses(x, "15: best(-2)", () -> x.best(-2), -1001);
+        c.refuses(x, "15: best(3)", o -> o.best(3), -1001);
+        c.refuses(x, "15: best(-2)", o -> o.best(-2), -1001);
         row("15 without PEOPLE", Check.holders(Check.of(), 0, 1), 0, -5, -5);
         row("15, nobody can", Check.holders(Check.of(3, 4), 5, 6), 0, -5, -5);
         row("15, as much as there is is nobody's", Check.holders(Check.of(3), 50, 50, 50, 50, 50, 50, 50), 0, -5, -5, -5, -5, -5, -5, -5);
-        OwnsLift z = Check.holders(Check.of(5, 5), 5, 5);
+        Lift z = Check.holders(Check.of(5, 5), 5, 5);
         Check.land(z, "like 9 p=0&t=1");
         row("15, what comes later is liked more by the first", z, 11, 1, 0);
-        OwnsLift v = Check.holders(Check.of(5, 5), 5, 5);
+        Lift v = Check.holders(Check.of(5, 5), 5, 5);
         Check.land(v, "like 9 p=1&t=1");
         row("15, what comes later is liked more by the last", v, 11, 0, 1);
-        OwnsLift y = Check.holders(Check.of(0, 0), 0, 1);
+        Lift y = Check.holders(Check.of(0, 0), 0, 1);
         row("15, what weighs nothing", y, 1, 0, -5);
     }
 
     private static void bestOfSeveral() {
-        OwnsLift x = Check.holders(Check.of(10, 10, 10), 10, 10, 10, 10);
+        Lift x = Check.holders(Check.of(10, 10, 10), 10, 10, 10, 10);
         row("15, the first of several", x, 3, 0, 1, 2, -5);
-        OwnsLift y = Check.holders(Check.of(5, 9), 5, 5, 4);
+        Lift y = Check.holders(Check.of(5, 9), 5, 5, 4);
         // All three: 0 with 0 or 1 and 1 with the other and 2: the first of both.
         row("15, the first of several", y, 3, 0, 1, 1);
-        OwnsLift z = Check.holders(Check.of(5, 50), 5, 5, 5);
+        Lift z = Check.holders(Check.of(5, 50), 5, 5, 5);
         row("15, the first of several", z, 3, 0, 1, 1);
         Check.land(z, "like 1 p=1&t=0");
         row("15, the most ahead of the first", z, 4, 1, 0, 1);
-        OwnsLift v = Check.holders(Check.of(10), 10, 5, 5);
+        Lift v = Check.holders(Check.of(10), 10, 5, 5);
         Check.land(v, "like 1 t=0");
         row("15, nobody behind all", v, 2, 0, -5, -5);
     }
 
     private static void most() {
-        OwnsLift x = Check.holders(Check.of(10, 10), 10, 6, 5, 5, 4);
-        c.asks(x, "16: most()", () -> x.most(), 4);
+        Lift x = Check.holders(Check.of(10, 10), 10, 6, 5, 5, 4);
+        c.asks(x, "16: most()", o -> o.most(), 4);
         Check.land(x, "like 90 t=0");
-        c.asks(x, "16: not by LIKE", () -> x.most(), 4);
+        c.asks(x, "16: not by LIKE", o -> o.most(), 4);
         x.strength(0, 15);
         x.strength(1, 15);
         c.due("16: all", x.most(), 5);
@@ -77,56 +77,56 @@ public final class OwnTest {
     }
 
     private static void train() {
-        OwnsLift x = Check.holders(Check.of(9, 5), 10, 6);
+        Lift x = Check.holders(Check.of(9, 5), 10, 6);
         Check.land(x, "like 7 t=0;like 2 t=1");
         // 0 has 1 now (3); with 10 it has 0 (8); 1 with 6 has 1: 3 + 0 as before.
-        c.asks(x, "17: train(0)", () -> x.train(0), 5);
-        c.asks(x, "17: train(1)", () -> x.train(1), 0);
+        c.asks(x, "17: train(0)", o -> o.train(0), 5);
+        c.asks(x, "17: train(1)", o -> o.train(1), 0);
         x.strength(0, 10);
         c.due("17: train(0)", x.train(0), 0);
         c.due("17: train(1)", x.train(1), 3);
         c.due("17: and BEST", x.best(-1), 8);
         x.strength(0, 99);
         c.due("17: 99 trained", x.train(0), 0);
-        c.refuses(x, "17: train(2)", () -> x.train(2), OwnsLift.NONE);
-        c.refuses(x, "17: train(-1)", () -> x.train(-1), OwnsLift.NONE);
+        c.refuses(x, "17: train(2)", o -> o.train(2), OwnsLift.NONE);
+        c.refuses(x, "17: train(-1)", o -> o.train(-1), OwnsLift.NONE);
     }
 
     private static void moved() {
-        OwnsLift x = Check.holders(Check.of(10, 10, 5), 6, 6, 4, 3);
-        c.asks(x, "18: nothing is anybody's", () -> x.moved(), 0);
+        Lift x = Check.holders(Check.of(10, 10, 5), 6, 6, 4, 3);
+        c.asks(x, "18: nothing is anybody's", o -> o.moved(), 0);
         x.give(0, 0);
         x.give(1, 1);
-        c.asks(x, "18: nobody is OVER", () -> x.moved(), 0);
+        c.asks(x, "18: nobody is OVER", o -> o.moved(), 0);
         x.give(2, 0);
         x.give(3, 0);
-        c.asks(x, "18: one moved", () -> x.moved(), 1);
+        c.asks(x, "18: one moved", o -> o.moved(), 1);
         x.give(1, 0);
-        c.asks(x, "18: two moved", () -> x.moved(), 2);
-        OwnsLift y = Check.holders(Check.of(10, 10), 6, 6, 6);
+        c.asks(x, "18: two moved", o -> o.moved(), 2);
+        Lift y = Check.holders(Check.of(10, 10), 6, 6, 6);
         y.give(0, 0);
         y.give(1, 0);
-        c.asks(y, "18: nobody's stays so", () -> y.moved(), 1);
+        c.asks(y, "18: nobody's stays so", o -> o.moved(), 1);
         y.give(2, 1);
-        c.asks(y, "18: there is none such", () -> y.moved(), -5);
-        OwnsLift z = Check.holders(Check.of(5, 9), 5, 9);
+        c.asks(y, "18: there is none such", o -> o.moved(), -5);
+        Lift z = Check.holders(Check.of(5, 9), 5, 9);
         z.give(0, 1);
         z.give(1, 0);
         c.due("18: both change", z.moved(), 2);
-        OwnsLift v = Check.holders(Check.of(5), 6);
+        Lift v = Check.holders(Check.of(5), 6);
         v.give(0, 0);
         c.due("18: not nobody's", v.moved(), -5);
     }
 
     private static void gives() {
-        OwnsLift x = Check.holders(Check.of(10, 10), 4, 4, 4, 9, 1);
+        Lift x = Check.holders(Check.of(10, 10), 4, 4, 4, 9, 1);
         for (int t = 0; t < 4; t++) {
             x.give(t, 0);
         }
         Check.land(x, "like 4 t=3;like 1 p=1");
         // 21 of 10: without 3 and one of 0..2: 6 away; without 3: 12 left; without 0, 1, 2: 9 left.
-        c.asks(x, "19: gives(0, 0)", () -> x.gives(0, 0), 7);
-        c.asks(x, "19: gives(0, 1)", () -> x.gives(0, 1), 3);
+        c.asks(x, "19: gives(0, 0)", o -> o.gives(0, 0), 7);
+        c.asks(x, "19: gives(0, 1)", o -> o.gives(0, 1), 3);
         x.strength(0, 12);
         c.due("19: gives(0, 0)", x.gives(0, 0), 7);
         Check.land(x, "like 1 p=1");
@@ -141,15 +141,15 @@ public final class OwnTest {
         x.strength(0, 0);
         c.due("19: all", x.gives(0, 0), 15);
         c.due("19: all", x.gives(0, 1), 4);
-        c.refuses(x, "19: gives(2, 0)", () -> x.gives(2, 0), OwnsLift.NONE);
-        c.refuses(x, "19: gives(-1, 0)", () -> x.gives(-1, 0), OwnsLift.NONE);
-        c.refuses(x, "19: gives(0, 2)", () -> x.gives(0, 2), OwnsLift.NONE);
-        c.refuses(x, "19: gives(0, -1)", () -> x.gives(0, -1), OwnsLift.NONE);
+        c.refuses(x, "19: gives(2, 0)", o -> o.gives(2, 0), OwnsLift.NONE);
+        c.refuses(x, "19: gives(-1, 0)", o -> o.gives(-1, 0), OwnsLift.NONE);
+        c.refuses(x, "19: gives(0, 2)", o -> o.gives(0, 2), OwnsLift.NONE);
+        c.refuses(x, "19: gives(0, -1)", o -> o.gives(0, -1), OwnsLift.NONE);
     }
 
     /** Each is asked right behind what changes it, with no other call between. */
     private static void askedAtOnce() {
-        OwnsLift x = Check.holders(Check.of(10, 10), 5, 6, 7);
+        Lift x = Check.holders(Check.of(10, 10), 5, 6, 7);
         c.due("15: at once", x.best(-1), 2);
         x.strength(0, 11);
         c.due("16: at once", x.most(), 3);
@@ -195,7 +195,7 @@ public final class OwnTest {
 
     /** What was asked of more THINGS and PEOPLE leaves no trace in what is asked behind undo(). */
     private static void behindUndo() {
-        OwnsLift x = Check.holders(Check.of(5, 5), 5, 5);
+        Lift x = Check.holders(Check.of(5, 5), 5, 5);
         x.image();
         x.person(0, 0, 50, 0);
         x.thing(1);
@@ -209,13 +209,13 @@ public final class OwnTest {
         c.due("16: behind undo()", x.most(), 2);
     }
 
-    private static void fraction(String what, OwnsLift x, int person, long above, long below) {
-        c.asks(x, what + " above", () -> x.parts(person, 0), above);
-        c.asks(x, what + " below", () -> x.parts(person, 1), below);
+    private static void fraction(String what, Lift x, int person, long above, long below) {
+        c.asks(x, what + " above", o -> o.parts(person, 0), above);
+        c.asks(x, what + " below", o -> o.parts(person, 1), below);
     }
 
     private static void parts() {
-        OwnsLift x = Check.holders(Check.of(10, 8), 6, 4, 9, 0);
+        Lift x = Check.holders(Check.of(10, 8), 6, 4, 9, 0);
         Check.land(x, "like 2 t=0&p=0;like 2 t=1;like 1 t=2;like 5 t=3");
         fraction("20: nothing", x, 0, 0, 1);
         x.give(0, 0);
@@ -236,9 +236,9 @@ public final class OwnTest {
         x.give(3, -1);
         fraction("20: lifts nothing", x, 0, 0, 1);
         fraction("20: another's", x, 1, 0, 1);
-        c.refuses(x, "20: parts(2, 0)", () -> x.parts(2, 0), OwnsLift.NO);
-        c.refuses(x, "20: parts(-1, 0)", () -> x.parts(-1, 0), OwnsLift.NO);
-        c.refuses(x, "20: parts(0, 2)", () -> x.parts(0, 2), OwnsLift.NO);
-        c.refuses(x, "20: parts(0, -1)", () -> x.parts(0, -1), OwnsLift.NO);
+        c.refuses(x, "20: parts(2, 0)", o -> o.parts(2, 0), OwnsLift.NO);
+        c.refuses(x, "20: parts(-1, 0)", o -> o.parts(-1, 0), OwnsLift.NO);
+        c.refuses(x, "20: parts(0, 2)", o -> o.parts(0, 2), OwnsLift.NO);
+        c.refuses(x, "20: parts(0, -1)", o -> o.parts(0, -1), OwnsLift.NO);
     }
 }
