@@ -189,6 +189,20 @@ public final class BenchEdgesTest {
         owners(c, "DEAREST", x, -5, -5, -5, 0);
     }
 
+    static void dearestDropsWhatWeighsOneByItsLike(Check c) {
+        // 1 for 1 is less than 50 for 5; 9 for 1 is more than 5 for 5.
+        Lift x = one(4, 5, "like 49 t=1", 1, 5);
+        c.due("DEAREST", x.bench(0), 1);
+        owners(c, "DEAREST", x, -5, 0);
+        Lift y = one(4, 5, "like 49 t=0", 5, 1);
+        c.due("DEAREST", y.bench(0), 1);
+        owners(c, "DEAREST", y, 0, -5);
+        Lift z = one(4, 5, "like 8 t=0;like 4 t=1", 1, 5);
+        c.due("DEAREST", z.bench(0), 1);
+        owners(c, "DEAREST", z, 0, -5);
+    }
+
+
     static void dearestIsNotCut(Check c) {
         // 7 for 50 is less than 1 for 7, and 2 for 15 less than both.
         Lift x = one(4, 71, "like 6 t=1;like 1 t=2", 7, 50, 15);

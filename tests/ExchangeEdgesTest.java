@@ -82,6 +82,18 @@ public final class ExchangeEdgesTest {
         swap(c, "1 is OVER behind it, too", x, 0, -5);
     }
 
+    static void whatWeighsNothingIsSwappedAsWell(Check c) {
+        Lift x = Check.holders(Check.of(0, 0), 0, 0, 1);
+        Check.owners(x, 0, 1);
+        Check.land(x, "like 1 p=0&t=1;like 1 p=1&t=0;like 9 p=0&t=2");
+        swap(c, "0 of 0 both", x, 1, 1);
+        c.asks(x, "one", o -> o.rest(), 1);
+        x.give(2, 1);
+        swap(c, "1 is OVER, and is behind it", x, 0, -5);
+        x.strength(1, 1);
+        swap(c, "1 of 1", x, 1, 1);
+    }
+
     static void theFirstIsByTheLesserThingThenByTheOther(Check c) {
         Lift x = Check.holders(Check.of(99, 99), 1, 1, 1, 1, 1, 1, 1);
         Check.owners(x, 0, 0, 0, -1, 1, 1, 1);

@@ -253,6 +253,25 @@ public final class ImageEdgesTest {
         c.due("the first YEAR again", y.year(), 1);
     }
 
+    static void behindUndoAllIsOfTheYearOfTheImage(Check c) {
+        Lift x = Check.holders(Check.of(5), 50);
+        Check.land(x, "like 3 y=0;like 5 y=1;lift 7 y=0;ill 2 y=0;wear 4 y=1;wear 9 y=2");
+        x.image();
+        x.year();
+        c.due("LIKE in YEAR 1", x.like(0, 0), 6);
+        x.undo();
+        c.due("LIKE in YEAR 0", x.like(0, 0), 4);
+        c.due("LIFTS in YEAR 0", x.of(0, 4), 12);
+        c.due("ILL in YEAR 0", x.of(0, 7), 2);
+        x.year();
+        c.due("WEIGHT in YEAR 1", x.at(0, 0), 46);
+        x.undo();
+        x.year();
+        x.year();
+        c.due("WEIGHT in YEAR 2", x.at(0, 0), 37);
+    }
+
+
     static void theImageHasWhatWasSeen(Check c) {
         comesBack(c, "one more", x -> x.see(0, true));
         comesBack(c, "none", x -> x.see(-1, true));

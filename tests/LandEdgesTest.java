@@ -594,6 +594,23 @@ public final class LandEdgesTest {
         }
     }
 
+    static void yIsOfTheYearThatItIsThingsOrNot(Check c) {
+        Lift x = new Lift();
+        x.person(0, 0, 0, 0);
+        Check.land(x, "lift 5 y=1;lift 9 y=0;ill 2 y=1");
+        c.due("LIFTS in YEAR 0", x.of(0, 4), 9);
+        c.due("ILL in YEAR 0", x.of(0, 7), 0);
+        x.year();
+        c.due("LIFTS in YEAR 1", x.of(0, 4), 5);
+        c.due("ILL in YEAR 1", x.of(0, 7), 2);
+        x.thing(0);
+        Check.land(x, "like 3 y=1;like 5 y=2");
+        c.due("LIKE in YEAR 1", x.like(0, 0), 4);
+        x.year();
+        c.due("LIKE in YEAR 2", x.like(0, 0), 6);
+    }
+
+
     static void ofLiftAndIllTAndWAreNinetyNine(Check c) {
         for (String word : new String[] {"lift", "ill"}) {
             int what = word.equals("lift") ? 4 : 7;

@@ -1,15 +1,12 @@
-import java.io.IOException;
 import java.lang.reflect.Constructor;
 import java.lang.reflect.Field;
 import java.lang.reflect.Method;
 import java.lang.reflect.Modifier;
-import java.nio.file.Files;
-import java.nio.file.Path;
 import java.util.List;
 import java.util.Set;
 import java.util.TreeSet;
 
-/** The face of the document, and those rules of LANGUAGE.md that a program can look at. */
+/** The face of the document and the members of the classes inside: rules 1, 2, 5 and 11 of LANGUAGE.md. RulesTest has the others. */
 public final class LanguageTest {
     private static final Check c = new Check();
 
@@ -21,13 +18,12 @@ public final class LanguageTest {
         "int had(int,int)", "long odds(int)", "int see(int,boolean)", "int looked()", "int act(int,int,int)",
         "int trace(int)", "int as(int,int)", "int image()", "int undo()", "int count(int)"));
 
-    public static void main(String[] args) throws IOException {
+    public static void main(String[] args) {
         face();
         for (Class<?> inside : OwnsLift.class.getDeclaredClasses()) {
             inside(inside);
         }
         c.due("11: classes, at most 13", Math.max(13, OwnsLift.class.getDeclaredClasses().length + 1), 13);
-        source(Files.readString(Path.of("src/main/java/OwnsLift.java")));
         c.end("LanguageTest");
     }
 
@@ -79,28 +75,6 @@ public final class LanguageTest {
             holds("1: the name of " + method, FACE.stream().noneMatch(f -> f.contains(" " + method.getName() + "(")));
             holds("11: " + method, method.getParameterCount() <= 7);
             holds("1: " + method, !Modifier.isPublic(method.getModifiers()));
-        }
-    }
-
-    private static void source(String text) {
-        for (char sign : text.toCharArray()) {
-            if (sign > 126) {
-                holds("4: the sign " + (int) sign, false);
-            }
-        }
-        String code = text.replaceAll("(?s)/\\*.*?\\*/", "").replaceAll("//[^\n]*", "").replaceAll("\"[^\"\n]*\"", "\"\"");
-        for (String word : List.of("throw", "throws", "try", "catch", "synchronized", "assert", "import", "package",
-                "System.out", "Random", "Object", "equals", "hashCode", "toString", "instanceof", "volatile", "double")) {
-            holds("6: no " + word, !code.matches("(?s).*(?<![A-Za-z])" + word.replace(".", "\\.") + "(?![A-Za-z]).*"));
-        }
-        holds("2: no lambda, no method reference", !code.contains("->") && !code.contains("::"));
-        int length = 0;
-        for (String line : code.split("\n")) {
-            boolean begins = line.matches("( {4}| {8})(public |private |static )*[a-z]+[\\[\\]]* [a-zA-Z]+\\(.*\\{");
-            length = begins ? 1 : length + 1;
-            if (line.matches(" {4,8}\\}")) {
-                holds("11: a method of " + length + " lines", length <= 60);
-            }
         }
     }
 }

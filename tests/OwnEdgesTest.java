@@ -410,6 +410,20 @@ public final class OwnEdgesTest {
         parts(c, "4 whole", x, 4, 1);
     }
 
+    static void partsTakeFirstWhatHasTheMostLikeForItsWeight(Check c) {
+        Lift x = Check.holders(Check.of(5), 1, 5);
+        Check.owners(x, 0, 0);
+        Check.land(x, "like 49 t=1");
+        parts(c, "50 for 5 ahead of 1 for 1", x, 50, 1);
+        Check.land(x, "like 49 t=0");
+        parts(c, "50 for 1 ahead of 1 for 5", x, 254, 5);
+        Lift y = Check.holders(Check.of(5), 5, 1);
+        Check.owners(y, 0, 0);
+        Check.land(y, "like 49 t=0");
+        parts(c, "50 for 5 ahead of 1 for 1", y, 50, 1);
+    }
+
+
     static void partsOfOneHaveThePartOfItsLikeAlone(Check c) {
         Lift x = Check.holders(Check.of(7), 7, 7);
         Check.owners(x, 0, 0);

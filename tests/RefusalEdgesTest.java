@@ -87,6 +87,53 @@ public final class RefusalEdgesTest {
         asks(c, x, "when", o -> o.when());
     }
 
+    private static final int ASKED = 16;
+
+    /** Something asked, by a number. */
+    private static long ask(Lift x, int n) {
+        switch (n) {
+            case 0: return x.best(-1);
+            case 1: return x.best(1);
+            case 2: return x.most();
+            case 3: return x.train(0);
+            case 4: return x.train(2);
+            case 5: return x.moved();
+            case 6: return x.gives(0, 0);
+            case 7: return x.gives(0, 1);
+            case 8: return x.parts(0, 0);
+            case 9: return x.parts(0, 1);
+            case 10: return x.swap(1);
+            case 11: return x.rest();
+            case 12: return x.fair(1, 2, 1);
+            case 13: return x.had(15, 0);
+            case 14: return x.odds(0);
+            default: return x.looked();
+        }
+    }
+
+    static void whatWasAskedBeforeIsNothingToWhatIsAsked(Check c) {
+        Lift x = world();
+        x.strength(1, 3);
+        for (int n = 0; n < ASKED; n++) {
+            long due = ask(x.again(), n);
+            for (int before = 0; before < ASKED; before++) {
+                Lift y = x.again();
+                ask(y, before);
+                c.due("asked " + n + " behind " + before, ask(y, n), due);
+            }
+        }
+        Lift z = Check.holders(Check.of(5, 9), 5, 5, 9, 9, 9);
+        Check.owners(z, 1, 0);
+        c.due("MOVED", z.moved(), 0);
+        c.due("MOST behind MOVED", z.most(), 2);
+        c.due("MOVED behind MOST", z.moved(), 0);
+        Check.owners(z, 0, 0);
+        c.due("MOVED", z.moved(), 1);
+        c.due("BEST behind MOVED", z.best(-1), 2);
+        c.due("MOVED behind BEST", z.moved(), 1);
+    }
+
+
     static void theWorldOfTheseTestsCanChange(Check c) {
         Lift x = world();
         Lift y = x.again();
