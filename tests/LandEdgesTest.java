@@ -416,6 +416,22 @@ public final class LandEdgesTest {
         c.due("p > 0 of 1", liked("p>0", 1, 0, 0, 0, 0, 0), 9);
     }
 
+    static void aTestOfNoughtAndOfNinetyNine(Check c) {
+        for (char letter : "pkatwy".toCharArray()) {
+            for (int sign = 0; sign < 3; sign++) {
+                String test = "" + letter + "<=>".charAt(sign);
+                c.due(test + "0 of 0", liked(test + "0", 0, 0, 0, 9, 9, 0), sign == 1 ? 9 : 0);
+                c.due("!" + test + "0 of 0", liked("!" + test + "0", 0, 0, 0, 9, 9, 0), sign == 1 ? 0 : 9);
+                c.due(test + "0 of more", liked(test + "0", 1, 1, 2, 34, 25, 4), sign == 2 ? 9 : 0);
+                c.due("!" + test + "0 of more", liked("!" + test + "0", 1, 1, 2, 34, 25, 4), sign == 2 ? 0 : 9);
+                c.due(test + "99 of less", liked(test + "99", 1, 1, 2, 34, 25, 4), sign == 0 ? 9 : 0);
+                c.due("!" + test + "99 of 0", liked("!" + test + "99", 0, 0, 0, 9, 9, 0), sign == 0 ? 0 : 9);
+                c.due("p=0&" + test + "0", liked("p=0&" + test + "0", 0, 0, 0, 9, 9, 0), sign == 1 ? 9 : 0);
+                c.due("p=9|" + test + "0", liked("p=9|" + test + "0", 0, 0, 0, 9, 9, 0), sign == 1 ? 9 : 0);
+            }
+        }
+    }
+
     // ---- E, T, F
 
     static void eIsOneTOrSeveral(Check c) {
