@@ -47,6 +47,8 @@ public final class LanguageTest {
             if (!Modifier.isPrivate(m.getModifiers())) {
                 open.add(signature(m));
                 holds("1: " + m + " is public", Modifier.isPublic(m.getModifiers()));
+            } else {
+                holds("1: the name of " + m, FACE.stream().noneMatch(f -> f.contains(" " + m.getName() + "(")));
             }
         }
         c.due("the face", open.toString(), FACE.toString());

@@ -210,7 +210,25 @@ public final class RulesTest extends TreePathScanner<Void, Void> {
             String name = e.toString();
             holds("4: " + name, tree, name.startsWith("OwnsLift") || LIBRARY.containsKey(name));
         }
+        if (e != null && e.getKind() == ElementKind.FIELD && e.getModifiers().contains(Modifier.STATIC)
+                && e.asType().getKind() == TypeKind.ARRAY) {
+            holds("5: " + e + " is only looked at", tree, onlyLookedAt());
+        }
         return super.visitIdentifier(tree, v);
+    }
+
+    /** The row that stands here is asked for an element, and that is not set. */
+    private boolean onlyLookedAt() {
+        TreePath above = getCurrentPath().getParentPath();
+        if (!(above.getLeaf() instanceof ArrayAccessTree)
+                || ((ArrayAccessTree) above.getLeaf()).getExpression() != getCurrentPath().getLeaf()) {
+            return false;
+        }
+        Tree user = above.getParentPath().getLeaf();
+        return !(user instanceof AssignmentTree && ((AssignmentTree) user).getVariable() == above.getLeaf())
+            && !(user instanceof CompoundAssignmentTree && ((CompoundAssignmentTree) user).getVariable() == above.getLeaf())
+            && !Set.of(Tree.Kind.PREFIX_INCREMENT, Tree.Kind.PREFIX_DECREMENT, Tree.Kind.POSTFIX_INCREMENT,
+                Tree.Kind.POSTFIX_DECREMENT).contains(user.getKind());
     }
 
     @Override
@@ -232,6 +250,18 @@ public final class RulesTest extends TreePathScanner<Void, Void> {
     public Void visitWhileLoop(WhileLoopTree tree, Void v) {
         holds("9: a loop with a bound", tree, tree.getCondition().toString().matches("(?s).*[<>].*"));
         return super.visitWhileLoop(tree, v);
+    }
+
+    @Override
+    public Void visitDoWhileLoop(DoWhileLoopTree tree, Void v) {
+        holds("9: a loop with a bound", tree, tree.getCondition().toString().matches("(?s).*[<>].*"));
+        return super.visitDoWhileLoop(tree, v);
+    }
+
+    @Override
+    public Void visitCompoundAssignment(CompoundAssignmentTree tree, Void v) {
+        holds("10: no text is joined", tree, typeOf(tree.getVariable()).getKind().isPrimitive());
+        return super.visitCompoundAssignment(tree, v);
     }
 
     private Void never(String what, Tree tree) {
